@@ -34,7 +34,7 @@ public final class LinesOfFragments {
     private static final int NOTE = 4;
     private static final int LOOSE = 5;
 
-    /* From FORCED_END on what has these ENDs is the last LINE of all, or of a part. */
+    /* In this order: behind an END from FORCED_END on a part of the paragraph is over. */
     private static final int GLUE_END = 0;
     private static final int HYPHEN_END = 1;
     private static final int FORCED_END = 2;
@@ -1371,8 +1371,8 @@ public final class LinesOfFragments {
         private int widow;
         private float loosest;
 
-        Line(Fragments cut) {
-            fragments = cut;
+        Line() {
+            fragments = new Fragments();
         }
 
         void measureBy(Paragraph paragraph) {
@@ -1474,8 +1474,8 @@ public final class LinesOfFragments {
         private final int[] from;
 
         Typesetter() {
-            fragments = new Fragments();
-            line = new Line(fragments);
+            line = new Line();
+            fragments = line.fragments;
             starts = new int[MOST_FRAGMENTS];
             best = new float[MOST_FRAGMENTS + 1];
             ahead = new float[MOST_FRAGMENTS + 1];
