@@ -132,6 +132,11 @@ public final class FaceTests {
             LinesOfFragments empty = new LinesOfFragments();
             LinesOfFragments full = page();
             for (int way = 0; way < ways; way++) {
+                if (way % 200 == 199) {
+                    // an object is used for 512 calls at most
+                    empty = new LinesOfFragments();
+                    full = page();
+                }
                 Object[] arguments = new Object[many];
                 int rest = way * (many > 1 ? 7919 : 1);
                 for (int i = 0; i < many; i++) {

@@ -1213,6 +1213,9 @@ public final class PromiseTests {
         due("DRAW", 1013904223 / 256 % 41, 4);
         int[] seeds = {0, 1, 7, -1, 123456789, Integer.MIN_VALUE, Integer.MAX_VALUE};
         for (int z : seeds) {
+            // an object is used for 512 calls at most
+            fresh(40);
+            words(4);
             int s = z;
             int together = 0;
             int none = 0;
@@ -1231,6 +1234,8 @@ public final class PromiseTests {
                 }
             }
         }
+        fresh(40);
+        words(4);
         due("lots(0, 0, 2)", x.lots(0, 0, 2), -4);
         due("lots(21, 0, 2)", x.lots(21, 0, 2), -6);
         due("lots(1, 0, 2)", x.lots(1, 0, 2), -2);
