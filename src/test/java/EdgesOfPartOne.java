@@ -630,6 +630,17 @@ final class EdgesOfPartOne extends Desk {
         x.line(16);
         due("eleven is too much", x.total(1), 0);
         due("firstFit", x.firstFit(), 2);
+        x.line(12);
+        x.glue(2, 0, 2);
+        dueFloat("GLUES that shrink to nothing", x.total(1), 101.0f * 101.0f);
+        due("firstFit", x.firstFit(), 1);
+        x.line(11);
+        due("LETTERS do not shrink", x.total(1), 0);
+        due("firstFit", x.firstFit(), 2);
+        x.kind(2, 0);
+        x.glue(2, 0, 1);
+        x.line(12);
+        dueFloat("GLUES of a TIGHT one that shrink to nothing", x.total(1), 101.0f * 101.0f);
     }
 
     private static void badness() {

@@ -999,6 +999,11 @@ final class EdgesOfPartTwo extends Desk {
                 }
             }
             due("one less", x.word(3, 0), -1);
+            due("one less", x.spelt(3, 0), -1);
+            due("one less", x.values(3, 0), -1);
+            due("one less", x.forces(3), -1);
+            due("one less", x.without(3, 0), -1);
+            due("one less", x.drops(3), -1);
             due("count(2)", x.count(2), 10 - gone - 1);
         }
         fresh();
@@ -1013,6 +1018,16 @@ final class EdgesOfPartTwo extends Desk {
             due("drops(0)", x.drops(0), left);
         }
         due("no more", x.drops(0), -1);
+        due("no more", x.spelt(0, 0), -1);
+        due("no more", x.lines(5), 0);
+        freshSheet("wa;");
+        x.adds(1, 1, 1);
+        x.patterns(1, -1, 0, 3);
+        x.back();
+        x.back();
+        due("a WORD taken back", x.spelt(1, 0), -1);
+        due("a PATTERN taken back", x.pattern(0, 3), -1);
+        due("a PATTERN taken back", x.values(0, 0), 0);
     }
 
     private static void image() {

@@ -71,7 +71,8 @@ public final class ModelTests {
             tell(sheetText(letters));
         }
         boolean easy = below(3) != 0;
-        while (calls.size() < 508 && !wrong) {
+        // the longest step takes some thirty calls, and an object is used for 512 at most
+        while (calls.size() < 480 && !wrong) {
             if (easy && below(12) == 0) {
                 ease();
             }
